@@ -431,8 +431,8 @@ public final class RiddleMill {
             return place >= 0 && place < size ? cells[place] : NONE;
         }
 
-        void becomeCopy(Rule other) {
-            begin(other.kind);
+        // Of a rule of the same kind, behind begin.
+        void takeParts(Rule other) {
             number = other.number;
             times = other.times;
             for (int i = 0; i < other.size; i++) {
@@ -731,7 +731,7 @@ public final class RiddleMill {
             for (int i = 0; i < other.ruleCount; i++) {
                 Rule rule = other.rules[i];
                 if (rule.kind != Kind.IS) {
-                    addRule(rule.kind).becomeCopy(rule);
+                    addRule(rule.kind).takeParts(rule);
                 }
             }
         }
@@ -754,7 +754,7 @@ public final class RiddleMill {
             }
             for (int i = 0; i < other.ruleCount; i++) {
                 Rule rule = addRule(other.rules[i].kind);
-                rule.becomeCopy(other.rules[i]);
+                rule.takeParts(other.rules[i]);
                 rule.moveCells(places);
             }
         }

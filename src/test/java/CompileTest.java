@@ -9,6 +9,8 @@ public final class CompileTest {
         testNumbers();
         testErrorsOfForm();
         testErrorsOfFormInRules();
+        testMisspeltWords();
+        testManyTokens();
         testTooLongTokens();
         testErrorsOfTheGrid();
         testErrorsOfNumbers();
@@ -19,6 +21,7 @@ public final class CompileTest {
         testTheFirstErrorIsTold();
         testErrorLeavesAllAsItWas();
         testPuzzleTakesThePlace();
+        testRulesAreMadeAnew();
         testErrorAtIsOfTheLatestCompile();
         Check.end();
     }
@@ -134,6 +137,27 @@ public final class CompileTest {
         error("grid 2 2 2;is a1;", 1, 16);
         error("grid 2 2 2;is a1 b1 1;", 1, 17);
         error("grid 2 2 2;is a1 1 1;", 1, 19);
+    }
+
+    private static void testMisspeltWords() {
+        String[] words = {"rows", "columns", "differ", "sum", "product", "less", "up", "see", "odd", "even",
+            "count", "is", "apart", "same"};
+        for (String word : words) {
+            error("grid 2 2 2;x" + word.substring(1) + " 1 1 a1;", 1, 11);
+            error("grid 2 2 2;" + word.substring(0, word.length() - 1) + "x 1 1 a1;", 1, 11);
+            error("grid 2 2 2;" + word.substring(0, word.length() - 1) + " 1 1 a1;", 1, 11);
+            error("grid 2 2 2;" + word + "x 1 1 a1;", 1, 11);
+        }
+        error("xrid 2 2 2;", 1, 0);
+        error("grix 2 2 2;", 1, 0);
+    }
+
+    private static void testManyTokens() {
+        error(Check.repeat(";", 1600), 1, 0);
+        error("grid 2 2 2" + Check.repeat(";", 1590), 1, 11);
+        error("grid 2 2 2;odd  " + Check.repeat("a1", 792), 1, 1600);
+        error("grid 2 2 2;odd a1" + Check.repeat(" ", 1583), 1, 1600);
+        error("grid 2 2 2;" + Check.repeat("up a1;", 264) + "up a1", 1, 1600);
     }
 
     private static void testTooLongTokens() {
@@ -268,6 +292,26 @@ public final class CompileTest {
         Check.same("the grade is gone", 0, mill.reasoned(1));
         Check.same("the paper is kept", paper, Check.paper(mill));
         Check.same("its text", "grid 3 2 2;even c2;", Check.written(mill));
+    }
+
+    // Whatever was there before, also of puzzles that rules were dropped of.
+    private static void testRulesAreMadeAnew() {
+        RiddleMill mill = Check.mill("grid 2 2 3;count 2 3 a1 b1 a2;count 3 1 a1 b1 b2;sum 5 a1 b2;odd b2;");
+        String[] texts = {"grid 2 2 2;up a1 b1;same a2 b2 a1;less a1 b1;even a1;odd b1;",
+            "grid 3 2 2;columns;is a1 2;is b1 1;", "grid 2 2 2;odd a1;sum 6 a1 b1;",
+            "grid 2 2 3;count 1 1 a1;count 2 2 b1 a1;product 6 b2 a2;"};
+        for (int round = 0; round < 8; round++) {
+            mill.drop(1);
+            mill.drop(0);
+            String text = texts[round % texts.length];
+            RiddleMill due = Check.mill(text);
+            Check.same("compile, round " + round, 0, Check.compile(mill, text));
+            Check.same("rules, round " + round, due.count(3), mill.count(3));
+            for (int rule = 0; rule < due.count(3); rule++) {
+                Check.same("rule " + rule + ", round " + round, Check.ruleText(due, rule),
+                        Check.ruleText(mill, rule));
+            }
+        }
     }
 
     private static void testErrorAtIsOfTheLatestCompile() {

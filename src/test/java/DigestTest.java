@@ -54,13 +54,13 @@ public final class DigestTest {
         mill.feed(1, 2, 3, 4, 5);
         Check.same("a tape", due(mill), mill.digest());
         Check.compile(mill, "x");
-        Check.compile(mill, "grid 3 2 4;rows;sum 5 a1 b1;count 1 2 a1 b1 c1;less a2 b2;is c2 4;");
+        Check.compile(mill, "grid 3 2 4;rows;sum 5 a1 b1;count 1 1 a1 b1 c1;less a2 b2;is c2 4;");
         Check.same("a puzzle", due(mill), mill.digest());
         mill.put(0, 3);
         mill.put(1, 3);
         Check.same("a grid that breaks rules", due(mill), mill.digest());
         mill.clear();
-        mill.search(30);
+        Check.same("solutions are found", 18, mill.search(30));
         Check.same("solutions", due(mill), mill.digest());
         mill.reason();
         Check.same("reasoning", due(mill), mill.digest());

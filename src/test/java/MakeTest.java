@@ -20,6 +20,7 @@ public final class MakeTest {
         testTurn();
         testMirror();
         testFourTurnsAndTwoMirrors();
+        testChangedRulesBindTheirNewCells();
         testChangeStateBehind();
         testChangeRefuses();
         Check.end();
@@ -237,6 +238,26 @@ public final class MakeTest {
         }
         Check.same("turned four times", written, Check.written(mill));
         Check.same("the grid turned four times", grid, Check.grid(mill));
+    }
+
+    private static void testChangedRulesBindTheirNewCells() {
+        // Mirrored, then turned upside down, then turned once more.
+        RiddleMill mill = Check.mill("grid 3 2 2;is a1 2;odd b1 c1;same a2 b2 c2 a1;");
+        Check.same("just one solution", 1, mill.search(30));
+        Check.same("it", "211222", Check.solution(mill, 0));
+        String[] due = {"112222", "222112", "121222"};
+        int[] sorts = {1, 1, 0};
+        int[] tries = {12, 22, 18};
+        for (int i = 0; i < sorts.length; i++) {
+            mill.change(sorts[i]);
+            if (i == 1) {
+                mill.change(0);
+                mill.change(0);
+            }
+            Check.same("just one solution, change " + i, 1, mill.search(30));
+            Check.same("it, change " + i, due[i], Check.solution(mill, 0));
+            Check.same("its tries, change " + i, tries[i], mill.count(8));
+        }
     }
 
     private static void testChangeStateBehind() {

@@ -210,6 +210,19 @@ public final class ReasonTest {
         Check.same("a chain of four", 12, mill.reason());
         Check.same("its sets", "8 4 2 1", Check.sets(mill));
         reasoned(mill, 4, 2, 4, 0);
+        // A chain of all cells, told backwards: each pass goes one cell further.
+        StringBuilder chain = new StringBuilder("is a1 3;");
+        for (int cell = 1; cell < 25; cell++) {
+            String link = "same " + name(cell - 1) + " " + name(cell) + ";";
+            chain.insert(8, link);
+        }
+        mill = Check.mill("grid 5 5 5;" + chain);
+        Check.same("a long chain", 100, mill.reason());
+        reasoned(mill, 25, 1, 25, 0);
+    }
+
+    private static String name(int cell) {
+        return "" + (char) ('a' + cell % 5) + (1 + cell / 5);
     }
 
     private static void testReasonWithoutPuzzle() {
