@@ -2,7 +2,8 @@
  * A mill for number puzzles: a puzzle is read from a tape, filled by hand, searched for its
  * solutions, reasoned about step by step, and new puzzles of the same kind are made of it.
  *
- * <p>All rows are made once, by the constructors, and used again: no call makes an object.
+ * <p>All rows are made once, by the constructors, and used again: no call makes an object, but for
+ * the exception that it throws.
  */
 public final class RiddleMill {
     private static final int NONE = -1;

@@ -258,6 +258,16 @@ public final class MakeTest {
             Check.same("it, change " + i, due[i], Check.solution(mill, 0));
             Check.same("its tries, change " + i, tries[i], mill.count(8));
         }
+        // The sum is out of reach, which is seen at its cell, not at that where it was.
+        mill = Check.mill("grid 2 2 2;sum 9 a1;");
+        Check.same("no solution", 0, mill.search(1));
+        Check.same("tries at a1", 2, mill.count(8));
+        int[] triesOfTurns = {2 + 4, 2 + 4 + 8 + 16, 2 + 4 + 8, 2};
+        for (int turn = 0; turn < 4; turn++) {
+            mill.change(0);
+            Check.same("no solution, turn " + turn, 0, mill.search(1));
+            Check.same("tries, turn " + turn, triesOfTurns[turn], mill.count(8));
+        }
     }
 
     private static void testChangeStateBehind() {
