@@ -93,6 +93,25 @@ final class Check {
         return mill;
     }
 
+    /** The text has to have this error at this place, and is no puzzle then. */
+    static void error(String text, int due, int at) {
+        RiddleMill mill = new RiddleMill();
+        same("error of \"" + text + "\"", due, compile(mill, text));
+        same("place in \"" + text + "\"", at, mill.errorAt());
+        same("columns behind \"" + text + "\"", 0, mill.count(0));
+        same("rules behind \"" + text + "\"", 0, mill.count(3));
+    }
+
+    /** The text has to be a puzzle, which is written like this. */
+    static void reads(String text, String due) {
+        RiddleMill mill = new RiddleMill();
+        same("error of \"" + text + "\"", 0, compile(mill, text));
+        same("place in \"" + text + "\"", -1, mill.errorAt());
+        if (mill.count(0) > 0) {
+            same("puzzle of \"" + text + "\"", due, written(mill));
+        }
+    }
+
     /** Writes the puzzle, and reads the paper. */
     static String written(RiddleMill mill) {
         int length = mill.write();

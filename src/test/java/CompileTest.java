@@ -26,228 +26,211 @@ public final class CompileTest {
         Check.end();
     }
 
-    private static void error(String text, int due, int at) {
-        RiddleMill mill = new RiddleMill();
-        Check.same("error of \"" + text + "\"", due, Check.compile(mill, text));
-        Check.same("place in \"" + text + "\"", at, mill.errorAt());
-        Check.same("columns behind \"" + text + "\"", 0, mill.count(0));
-        Check.same("rules behind \"" + text + "\"", 0, mill.count(3));
-    }
-
-    private static void reads(String text, String due) {
-        RiddleMill mill = new RiddleMill();
-        Check.same("error of \"" + text + "\"", 0, Check.compile(mill, text));
-        Check.same("place in \"" + text + "\"", -1, mill.errorAt());
-        if (mill.count(0) > 0) {
-            Check.same("puzzle of \"" + text + "\"", due, Check.written(mill));
-        }
-    }
-
     private static void testBlanks() {
-        reads("grid 2 3 4;", "grid 2 3 4;");
-        reads("  \n grid\n2 \n3  4 ; \n ", "grid 2 3 4;");
-        reads("grid 2 2 2;\nsum 3 a1\nb1;\n", "grid 2 2 2;sum 3 a1 b1;");
-        error("grid\t2 2 2;", 1, 4);
-        error("grid 2 2 2;\r\n", 1, 11);
-        error("gr id 2 2 2;", 1, 0);
-        error("grid 2 2 2;odd a 1;", 1, 15);
+        Check.reads("grid 2 3 4;", "grid 2 3 4;");
+        Check.reads("  \n grid\n2 \n3  4 ; \n ", "grid 2 3 4;");
+        Check.reads("grid 2 2 2;\nsum 3 a1\nb1;\n", "grid 2 2 2;sum 3 a1 b1;");
+        Check.error("grid\t2 2 2;", 1, 4);
+        Check.error("grid 2 2 2;\r\n", 1, 11);
+        Check.error("gr id 2 2 2;", 1, 0);
+        Check.error("grid 2 2 2;odd a 1;", 1, 15);
     }
 
     private static void testTokensWithoutBlanks() {
-        reads("grid2 2 2;", "grid 2 2 2;");
-        reads("grid 2 2 2;sum3a1b1a2b2;", "grid 2 2 2;sum 3 a1 b1 a2 b2;");
+        Check.reads("grid2 2 2;", "grid 2 2 2;");
+        Check.reads("grid 2 2 2;sum3a1b1a2b2;", "grid 2 2 2;sum 3 a1 b1 a2 b2;");
         // Two digits behind a letter are a cell and a number.
-        reads("grid 2 2 2;is a12;", "grid 2 2 2;is a1 2;");
-        reads("grid 2 2 2;odd a1;even b2;", "grid 2 2 2;odd a1;even b2;");
-        error("grid 2 2 2;odda1;", 1, 11);
-        error("grid 222;", 1, 8);
-        error("grid 2 2 2;rows1;", 1, 15);
-        error("grid 2 2 2;sum 3 a12;", 1, 19);
-        error("grid 2 2 2;odd aa1;", 1, 15);
+        Check.reads("grid 2 2 2;is a12;", "grid 2 2 2;is a1 2;");
+        Check.reads("grid 2 2 2;odd a1;even b2;", "grid 2 2 2;odd a1;even b2;");
+        Check.error("grid 2 2 2;odda1;", 1, 11);
+        Check.error("grid 222;", 1, 8);
+        Check.error("grid 2 2 2;rows1;", 1, 15);
+        Check.error("grid 2 2 2;sum 3 a12;", 1, 19);
+        Check.error("grid 2 2 2;odd aa1;", 1, 15);
     }
 
     private static void testNumbers() {
-        reads("grid 0002 2 02;sum 0 a1;sum 9999 a1;", "grid 2 2 2;sum 0 a1;sum 9999 a1;");
-        reads("grid 2 2 2;product 0 a1;product 0040 a1;", "grid 2 2 2;product 0 a1;product 40 a1;");
-        reads("grid 2 2 2;is a1 0001;", "grid 2 2 2;is a1 1;");
+        Check.reads("grid 0002 2 02;sum 0 a1;sum 9999 a1;", "grid 2 2 2;sum 0 a1;sum 9999 a1;");
+        Check.reads("grid 2 2 2;product 0 a1;product 0040 a1;", "grid 2 2 2;product 0 a1;product 40 a1;");
+        Check.reads("grid 2 2 2;is a1 0001;", "grid 2 2 2;is a1 1;");
     }
 
     private static void testErrorsOfForm() {
-        error("", 1, 0);
-        error("   ", 1, 3);
-        error(";", 1, 0);
-        error("rows;", 1, 0);
-        error("3", 1, 0);
-        error("14 3 3 3;", 1, 0);
-        error("a1", 1, 0);
-        error("Grid 2 2 2;", 1, 0);
-        error("grids 2 2 2;", 1, 0);
-        error("gri 2 2 2;", 1, 0);
-        error("grid", 1, 4);
-        error("grid;", 1, 4);
-        error("grid a1 2 2;", 1, 5);
-        error("grid 2", 1, 6);
-        error("grid 2 2", 1, 8);
-        error("grid 2 2;", 1, 8);
-        error("grid 2 2 2", 1, 10);
-        error("grid 2 2 2  ", 1, 12);
-        error("grid 2 2 2 2;", 1, 11);
-        error("grid 2 2 2,", 1, 10);
-        error("grid -2 2 2;", 1, 5);
-        error("grid 2 2 2;;", 1, 11);
-        error("grid 2 2 2;grid 2 2 2;", 1, 11);
-        error("grid 2 2 2;12;", 1, 11);
-        error("grid 2 2 2;a1;", 1, 11);
-        error("grid 2 2 2;row;", 1, 11);
-        error("grid 2 2 2;ROWS;", 1, 11);
-        error("grid 2 2 2; {", 1, 12);
-        error("grid 2 2 2;`", 1, 11);
-        error("grid 2 2 2;:", 1, 11);
-        error("grid 2 2 2;/", 1, 11);
+        Check.error("", 1, 0);
+        Check.error("   ", 1, 3);
+        Check.error(";", 1, 0);
+        Check.error("rows;", 1, 0);
+        Check.error("3", 1, 0);
+        Check.error("14 3 3 3;", 1, 0);
+        Check.error("a1", 1, 0);
+        Check.error("Grid 2 2 2;", 1, 0);
+        Check.error("grids 2 2 2;", 1, 0);
+        Check.error("gri 2 2 2;", 1, 0);
+        Check.error("grid", 1, 4);
+        Check.error("grid;", 1, 4);
+        Check.error("grid a1 2 2;", 1, 5);
+        Check.error("grid 2", 1, 6);
+        Check.error("grid 2 2", 1, 8);
+        Check.error("grid 2 2;", 1, 8);
+        Check.error("grid 2 2 2", 1, 10);
+        Check.error("grid 2 2 2  ", 1, 12);
+        Check.error("grid 2 2 2 2;", 1, 11);
+        Check.error("grid 2 2 2,", 1, 10);
+        Check.error("grid -2 2 2;", 1, 5);
+        Check.error("grid 2 2 2;;", 1, 11);
+        Check.error("grid 2 2 2;grid 2 2 2;", 1, 11);
+        Check.error("grid 2 2 2;12;", 1, 11);
+        Check.error("grid 2 2 2;a1;", 1, 11);
+        Check.error("grid 2 2 2;row;", 1, 11);
+        Check.error("grid 2 2 2;ROWS;", 1, 11);
+        Check.error("grid 2 2 2; {", 1, 12);
+        Check.error("grid 2 2 2;`", 1, 11);
+        Check.error("grid 2 2 2;:", 1, 11);
+        Check.error("grid 2 2 2;/", 1, 11);
     }
 
     private static void testErrorsOfFormInRules() {
-        error("grid 2 2 2;rows", 1, 15);
-        error("grid 2 2 2;rows rows;", 1, 16);
-        error("grid 2 2 2;rows a1;", 1, 16);
-        error("grid 2 2 2;columns 2;", 1, 19);
+        Check.error("grid 2 2 2;rows", 1, 15);
+        Check.error("grid 2 2 2;rows rows;", 1, 16);
+        Check.error("grid 2 2 2;rows a1;", 1, 16);
+        Check.error("grid 2 2 2;columns 2;", 1, 19);
         String[] words = {"differ", "up", "odd", "even", "same", "less"};
         for (String word : words) {
             int behind = 11 + word.length();
-            error("grid 2 2 2;" + word + ";", 1, behind);
-            error("grid 2 2 2;" + word + " 1 a1;", 1, behind + 1);
-            error("grid 2 2 2;" + word + " a1", 1, behind + 3);
-            error("grid 2 2 2;" + word + " a1 odd;", 1, behind + 4);
+            Check.error("grid 2 2 2;" + word + ";", 1, behind);
+            Check.error("grid 2 2 2;" + word + " 1 a1;", 1, behind + 1);
+            Check.error("grid 2 2 2;" + word + " a1", 1, behind + 3);
+            Check.error("grid 2 2 2;" + word + " a1 odd;", 1, behind + 4);
         }
         String[] wordsOfNumbers = {"sum", "product", "see", "apart"};
         for (String word : wordsOfNumbers) {
             int behind = 11 + word.length();
-            error("grid 2 2 2;" + word + " a1;", 1, behind + 1);
-            error("grid 2 2 2;" + word + " 1;", 1, behind + 2);
-            error("grid 2 2 2;" + word + " 1 2 a1;", 1, behind + 3);
-            error("grid 2 2 2;" + word + " 1 a1 2;", 1, behind + 6);
+            Check.error("grid 2 2 2;" + word + " a1;", 1, behind + 1);
+            Check.error("grid 2 2 2;" + word + " 1;", 1, behind + 2);
+            Check.error("grid 2 2 2;" + word + " 1 2 a1;", 1, behind + 3);
+            Check.error("grid 2 2 2;" + word + " 1 a1 2;", 1, behind + 6);
         }
-        error("grid 2 2 2;less a1;", 1, 18);
-        error("grid 2 2 2;less a1 b1 a2;", 1, 22);
-        error("grid 2 2 2;count a1;", 1, 17);
-        error("grid 2 2 2;count 1 a1;", 1, 19);
-        error("grid 2 2 2;count 1 1;", 1, 20);
-        error("grid 2 2 2;count 1 1 1 a1;", 1, 21);
-        error("grid 2 2 2;is 1 a1;", 1, 14);
-        error("grid 2 2 2;is a1;", 1, 16);
-        error("grid 2 2 2;is a1 b1 1;", 1, 17);
-        error("grid 2 2 2;is a1 1 1;", 1, 19);
+        Check.error("grid 2 2 2;less a1;", 1, 18);
+        Check.error("grid 2 2 2;less a1 b1 a2;", 1, 22);
+        Check.error("grid 2 2 2;count a1;", 1, 17);
+        Check.error("grid 2 2 2;count 1 a1;", 1, 19);
+        Check.error("grid 2 2 2;count 1 1;", 1, 20);
+        Check.error("grid 2 2 2;count 1 1 1 a1;", 1, 21);
+        Check.error("grid 2 2 2;is 1 a1;", 1, 14);
+        Check.error("grid 2 2 2;is a1;", 1, 16);
+        Check.error("grid 2 2 2;is a1 b1 1;", 1, 17);
+        Check.error("grid 2 2 2;is a1 1 1;", 1, 19);
     }
 
     private static void testMisspeltWords() {
         String[] words = {"rows", "columns", "differ", "sum", "product", "less", "up", "see", "odd", "even",
             "count", "is", "apart", "same"};
         for (String word : words) {
-            error("grid 2 2 2;x" + word.substring(1) + " 1 1 a1;", 1, 11);
-            error("grid 2 2 2;" + word.substring(0, word.length() - 1) + "x 1 1 a1;", 1, 11);
-            error("grid 2 2 2;" + word.substring(0, word.length() - 1) + " 1 1 a1;", 1, 11);
-            error("grid 2 2 2;" + word + "x 1 1 a1;", 1, 11);
+            Check.error("grid 2 2 2;x" + word.substring(1) + " 1 1 a1;", 1, 11);
+            Check.error("grid 2 2 2;" + word.substring(0, word.length() - 1) + "x 1 1 a1;", 1, 11);
+            Check.error("grid 2 2 2;" + word.substring(0, word.length() - 1) + " 1 1 a1;", 1, 11);
+            Check.error("grid 2 2 2;" + word + "x 1 1 a1;", 1, 11);
         }
-        error("xrid 2 2 2;", 1, 0);
-        error("grix 2 2 2;", 1, 0);
+        Check.error("xrid 2 2 2;", 1, 0);
+        Check.error("grix 2 2 2;", 1, 0);
     }
 
     private static void testManyTokens() {
-        error(Check.repeat(";", 1600), 1, 0);
-        error("grid 2 2 2" + Check.repeat(";", 1590), 1, 11);
-        error("grid 2 2 2;odd  " + Check.repeat("a1", 792), 1, 1600);
-        error("grid 2 2 2;odd a1" + Check.repeat(" ", 1583), 1, 1600);
-        error("grid 2 2 2;" + Check.repeat("up a1;", 264) + "up a1", 1, 1600);
+        Check.error(Check.repeat(";", 1600), 1, 0);
+        Check.error("grid 2 2 2" + Check.repeat(";", 1590), 1, 11);
+        Check.error("grid 2 2 2;odd  " + Check.repeat("a1", 792), 1, 1600);
+        Check.error("grid 2 2 2;odd a1" + Check.repeat(" ", 1583), 1, 1600);
+        Check.error("grid 2 2 2;" + Check.repeat("up a1;", 264) + "up a1", 1, 1600);
     }
 
     private static void testTooLongTokens() {
-        error("grid 2 2 2;sum 10000 a1;", 1, 15);
-        error("grid 2 2 2;sum 00001 a1;", 1, 15);
-        error("grid 2 2 2;sum " + Check.repeat("9", 40) + " a1;", 1, 15);
-        error("grid 2 2 22222;", 1, 9);
+        Check.error("grid 2 2 2;sum 10000 a1;", 1, 15);
+        Check.error("grid 2 2 2;sum 00001 a1;", 1, 15);
+        Check.error("grid 2 2 2;sum " + Check.repeat("9", 40) + " a1;", 1, 15);
+        Check.error("grid 2 2 22222;", 1, 9);
         // 2 to the 32nd and 1, which is 1 in 32 bits
-        error("grid 2 2 2;is a1 4294967297;", 1, 17);
-        error("grid 2 2 2;differing a1;", 1, 11);
-        error("grid 2 2 2;" + Check.repeat("rows", 300) + ";", 1, 11);
+        Check.error("grid 2 2 2;is a1 4294967297;", 1, 17);
+        Check.error("grid 2 2 2;differing a1;", 1, 11);
+        Check.error("grid 2 2 2;" + Check.repeat("rows", 300) + ";", 1, 11);
     }
 
     private static void testErrorsOfTheGrid() {
-        reads("grid 5 5 5;", "grid 5 5 5;");
+        Check.reads("grid 5 5 5;", "grid 5 5 5;");
         String[] wrong = {"0", "1", "6", "9999"};
         for (String number : wrong) {
-            error("grid " + number + " 2 2;", 2, 5);
-            error("grid 2 " + number + " 2;", 2, 7);
-            error("grid 2 2 " + number + ";", 2, 9);
-            error("grid " + number + " " + number + " " + number + ";", 2, 5);
+            Check.error("grid " + number + " 2 2;", 2, 5);
+            Check.error("grid 2 " + number + " 2;", 2, 7);
+            Check.error("grid 2 2 " + number + ";", 2, 9);
+            Check.error("grid " + number + " " + number + " " + number + ";", 2, 5);
         }
     }
 
     private static void testErrorsOfNumbers() {
-        reads("grid 2 2 3;count 3 5 a1;count 1 0 a1;", "grid 2 2 3;count 3 5 a1;count 1 0 a1;");
-        error("grid 2 2 3;count 0 1 a1;", 2, 17);
-        error("grid 2 2 3;count 4 1 a1;", 2, 17);
-        error("grid 2 2 3;count 1 6 a1;", 2, 19);
-        reads("grid 2 2 3;is a1 3;is b1 1;", "grid 2 2 3;is a1 3;is b1 1;");
-        error("grid 2 2 3;is a1 0;", 2, 17);
-        error("grid 2 2 3;is a1 4;", 2, 17);
-        reads("grid 2 2 3;see 5 a1;see 1 a1;", "grid 2 2 3;see 5 a1;see 1 a1;");
-        error("grid 2 2 3;see 0 a1;", 2, 15);
-        error("grid 2 2 3;see 6 a1;", 2, 15);
-        reads("grid 2 2 3;apart 4 a1;apart 1 a1;", "grid 2 2 3;apart 4 a1;apart 1 a1;");
-        error("grid 2 2 3;apart 0 a1;", 2, 17);
-        error("grid 2 2 3;apart 5 a1;", 2, 17);
+        Check.reads("grid 2 2 3;count 3 5 a1;count 1 0 a1;", "grid 2 2 3;count 3 5 a1;count 1 0 a1;");
+        Check.error("grid 2 2 3;count 0 1 a1;", 2, 17);
+        Check.error("grid 2 2 3;count 4 1 a1;", 2, 17);
+        Check.error("grid 2 2 3;count 1 6 a1;", 2, 19);
+        Check.reads("grid 2 2 3;is a1 3;is b1 1;", "grid 2 2 3;is a1 3;is b1 1;");
+        Check.error("grid 2 2 3;is a1 0;", 2, 17);
+        Check.error("grid 2 2 3;is a1 4;", 2, 17);
+        Check.reads("grid 2 2 3;see 5 a1;see 1 a1;", "grid 2 2 3;see 5 a1;see 1 a1;");
+        Check.error("grid 2 2 3;see 0 a1;", 2, 15);
+        Check.error("grid 2 2 3;see 6 a1;", 2, 15);
+        Check.reads("grid 2 2 3;apart 4 a1;apart 1 a1;", "grid 2 2 3;apart 4 a1;apart 1 a1;");
+        Check.error("grid 2 2 3;apart 0 a1;", 2, 17);
+        Check.error("grid 2 2 3;apart 5 a1;", 2, 17);
     }
 
     private static void testErrorsOfCells() {
-        reads("grid 3 2 2;odd c2;", "grid 3 2 2;odd c2;");
-        error("grid 3 2 2;odd d1;", 2, 15);
-        error("grid 3 2 2;odd a3;", 2, 15);
-        error("grid 3 2 2;odd a0;", 2, 15);
-        error("grid 3 2 2;odd a1 z9;", 2, 18);
-        error("grid 3 2 2;differ a1 b1 a1;", 3, 24);
-        error("grid 3 2 2;less b2 b2;", 3, 19);
-        error("grid 3 2 2;sum 3 a1 a1;", 3, 20);
+        Check.reads("grid 3 2 2;odd c2;", "grid 3 2 2;odd c2;");
+        Check.error("grid 3 2 2;odd d1;", 2, 15);
+        Check.error("grid 3 2 2;odd a3;", 2, 15);
+        Check.error("grid 3 2 2;odd a0;", 2, 15);
+        Check.error("grid 3 2 2;odd a1 z9;", 2, 18);
+        Check.error("grid 3 2 2;differ a1 b1 a1;", 3, 24);
+        Check.error("grid 3 2 2;less b2 b2;", 3, 19);
+        Check.error("grid 3 2 2;sum 3 a1 a1;", 3, 20);
         // Another rule can have the cell, too.
-        reads("grid 3 2 2;odd a1;odd a1;", "grid 3 2 2;odd a1;odd a1;");
-        reads("grid 3 2 2;rows;differ a1 b1;", "grid 3 2 2;differ a1 b1 c1;differ a2 b2 c2;differ a1 b1;");
+        Check.reads("grid 3 2 2;odd a1;odd a1;", "grid 3 2 2;odd a1;odd a1;");
+        Check.reads("grid 3 2 2;rows;differ a1 b1;", "grid 3 2 2;differ a1 b1 c1;differ a2 b2 c2;differ a1 b1;");
     }
 
     private static void testTooManyCells() {
-        reads("grid 5 5 5;odd a1 b1 c1 d1 e1;", "grid 5 5 5;odd a1 b1 c1 d1 e1;");
-        error("grid 5 5 5;odd a1 b1 c1 d1 e1 a2;", 4, 30);
+        Check.reads("grid 5 5 5;odd a1 b1 c1 d1 e1;", "grid 5 5 5;odd a1 b1 c1 d1 e1;");
+        Check.error("grid 5 5 5;odd a1 b1 c1 d1 e1 a2;", 4, 30);
         // At one place the error with the smallest number is told.
-        error("grid 5 5 5;odd a1 b1 c1 d1 e1 a1;", 3, 30);
-        error("grid 5 5 5;odd a1 b1 c1 d1 e1 f1;", 2, 30);
+        Check.error("grid 5 5 5;odd a1 b1 c1 d1 e1 a1;", 3, 30);
+        Check.error("grid 5 5 5;odd a1 b1 c1 d1 e1 f1;", 2, 30);
     }
 
     private static void testTooManyRules() {
         String head = "grid 5 4 5;";
         RiddleMill mill = Check.mill(head + Check.repeat("odd a1;", 40));
         Check.same("40 rules", 40, mill.count(3));
-        error(head + Check.repeat("odd a1;", 41), 4, 11 + 40 * 7);
-        error(head + Check.repeat("odd a1;", 40) + "sum 1 z9;", 4, 11 + 40 * 7);
+        Check.error(head + Check.repeat("odd a1;", 41), 4, 11 + 40 * 7);
+        Check.error(head + Check.repeat("odd a1;", 40) + "sum 1 z9;", 4, 11 + 40 * 7);
         Check.same("rows up to 40", 40,
                 Check.mill(head + Check.repeat("odd a1;", 36) + "rows;").count(3));
-        error(head + Check.repeat("odd a1;", 37) + "rows;", 4, 11 + 37 * 7);
+        Check.error(head + Check.repeat("odd a1;", 37) + "rows;", 4, 11 + 37 * 7);
         Check.same("columns up to 40", 40,
                 Check.mill(head + Check.repeat("odd a1;", 35) + "columns;").count(3));
-        error(head + Check.repeat("odd a1;", 36) + "columns;", 4, 11 + 36 * 7);
-        error(head + "rows;columns;rows;columns;rows;columns;rows;columns;rows;rows;", 4, 11 + 4 * 13 + 5);
+        Check.error(head + Check.repeat("odd a1;", 36) + "columns;", 4, 11 + 36 * 7);
+        Check.error(head + "rows;columns;rows;columns;rows;columns;rows;columns;rows;rows;", 4, 11 + 4 * 13 + 5);
     }
 
     private static void testFormIsLookedAtFirst() {
-        error("grid 9 9 9;odd", 1, 14);
-        error("grid 2 2 2;odd a1 a1;x", 1, 21);
-        error("grid 2 2 2;odd z9", 1, 17);
+        Check.error("grid 9 9 9;odd", 1, 14);
+        Check.error("grid 2 2 2;odd a1 a1;x", 1, 21);
+        Check.error("grid 2 2 2;odd z9", 1, 17);
     }
 
     private static void testTheFirstErrorIsTold() {
-        error("grid 2 2 2;odd a1 a1;odd c1;", 3, 18);
-        error("grid 2 2 2;odd c1;odd a1 a1;", 2, 15);
-        error("grid 2 2 2;count 9 9 z9;", 2, 17);
-        error("grid 2 2 2;count 1 9 z9;", 2, 19);
-        error("grid 2 2 2;is z9 9;", 2, 14);
-        error("grid 6 2 2;odd f1;", 2, 5);
+        Check.error("grid 2 2 2;odd a1 a1;odd c1;", 3, 18);
+        Check.error("grid 2 2 2;odd c1;odd a1 a1;", 2, 15);
+        Check.error("grid 2 2 2;count 9 9 z9;", 2, 17);
+        Check.error("grid 2 2 2;count 1 9 z9;", 2, 19);
+        Check.error("grid 2 2 2;is z9 9;", 2, 14);
+        Check.error("grid 6 2 2;odd f1;", 2, 5);
     }
 
     private static void testErrorLeavesAllAsItWas() {
