@@ -1,8 +1,9 @@
 /** All promises: any calls with any arguments throw what the document names, or nothing, and end. */
 public final class AnyCallsTest {
-    private static final String[] WORDS = {"differ", "up", "odd", "even", "same", "sum 5", "sum 9", "product 6",
-        "product 0", "see 2", "apart 1", "count 2 1", "count 1 0"};
-    private static final int[] FAR = {Integer.MIN_VALUE, Integer.MAX_VALUE, -1, -2, 1600, 65535, 65536, 31, 1 << 30};
+    private static final String[] WORDS = {"differ", "up", "odd", "even", "same", "sum 5", "sum 9",
+        "product 6", "product 0", "see 2", "apart 1", "count 2 1", "count 1 0"};
+    private static final int[] FAR = {Integer.MIN_VALUE, Integer.MAX_VALUE, -1, -2, 1600, 65535, 65536, 31,
+        1 << 30};
     private static final int MILLS = 400;
     private static final int CALLS = 512;
 
@@ -59,7 +60,8 @@ public final class AnyCallsTest {
         return text.toString();
     }
 
-    private static void due(RiddleMill mill, String what, Class<? extends RuntimeException> due, Check.Call call) {
+    private static void due(RiddleMill mill, String what, Class<? extends RuntimeException> due,
+            Check.Call call) {
         if (due != null) {
             long before = mill.digest();
             int at = mill.errorAt();
@@ -79,11 +81,18 @@ public final class AnyCallsTest {
         return index < 0 || index >= bound ? IndexOutOfBoundsException.class : null;
     }
 
-    private static Class<? extends RuntimeException> argument(int number, int least, int most, boolean hasPuzzle) {
+    private static Class<? extends RuntimeException> argument(int number, int least, int most,
+            boolean hasPuzzle) {
         if (number < least || number > most) {
             return IllegalArgumentException.class;
         }
         return hasPuzzle ? null : IllegalStateException.class;
+    }
+
+    // The exception that is named first is thrown.
+    private static Class<? extends RuntimeException> first(Class<? extends RuntimeException> one,
+            Class<? extends RuntimeException> other) {
+        return one != null ? one : other;
     }
 
     private static void testCall(RiddleMill mill) {
@@ -126,15 +135,15 @@ public final class AnyCallsTest {
         int index = argument(mill.count(7));
         switch (what) {
             case 8 -> due(mill, "count " + told, outside(told, 11), () -> mill.count(told));
-            case 9, 10 -> due(mill, "rule " + rule + ", " + told,
-                    outside(rule, rules) != null ? outside(rule, rules) : outside(told, 10), () -> mill.rule(rule, told));
+            case 9, 10 -> due(mill, "rule " + rule + ", " + told, first(outside(rule, rules), outside(told, 10)),
+                    () -> mill.rule(rule, told));
             case 11 -> due(mill, "drop " + rule, outside(rule, rules), () -> mill.drop(rule));
             case 12 -> {
                 int k = argument(mill.count(10));
                 due(mill, "byteAt " + k, outside(k, mill.count(10)), () -> mill.byteAt(k));
             }
             case 13, 14 -> due(mill, "put " + cell + ", " + value,
-                    outside(cell, cells) != null ? outside(cell, cells) : argument(value, 0, mill.count(2), true),
+                    first(outside(cell, cells), argument(value, 0, mill.count(2), true)),
                     () -> mill.put(cell, value));
             case 15 -> due(mill, "value " + cell, outside(cell, cells), () -> mill.value(cell));
             case 16 -> {
@@ -142,7 +151,7 @@ public final class AnyCallsTest {
                 due(mill, "search " + most, argument(most, 1, 30, hasPuzzle), () -> mill.search(most));
             }
             case 17 -> due(mill, "solution " + index + ", " + cell,
-                    outside(index, mill.count(7)) != null ? outside(index, mill.count(7)) : outside(cell, cells),
+                    first(outside(index, mill.count(7)), outside(cell, cells)),
                     () -> mill.solution(index, cell));
             case 18 -> due(mill, "isNeeded " + rule, outside(rule, rules), () -> mill.isNeeded(rule));
             case 19 -> due(mill, "possible " + cell, outside(cell, cells), () -> mill.possible(cell));
@@ -152,7 +161,8 @@ public final class AnyCallsTest {
                 int seed = argument(65535);
                 due(mill, "make " + seed, argument(seed, 0, 65535, hasPuzzle), () -> mill.make(seed));
             }
-            default -> due(mill, "change " + value, argument(value, 0, 1, hasPuzzle), () -> mill.change(value));
+            default -> due(mill, "change " + value, argument(value, 0, 1, hasPuzzle),
+                    () -> mill.change(value));
         }
     }
 }

@@ -126,8 +126,8 @@ public final class CallEdgesTest {
 
     // "0 if it has none", "of count, otherwise 0", "-1 if it has fewer"
     private static void testPartsThatRulesLack() {
-        String[] rules = {"differ", "sum 7", "product 6", "less", "up", "see 1", "odd", "even", "count 2 3", "is",
-            "apart 1", "same"};
+        String[] rules = {"differ", "sum 7", "product 6", "less", "up", "see 1", "odd", "even", "count 2 3",
+            "is", "apart 1", "same"};
         int[] numbers = {0, 7, 6, 0, 0, 1, 0, 0, 2, 4, 1, 0};
         String[] cells = {" a1", " b1", " c1", " a2", " b2"};
         for (int kind = 0; kind < rules.length; kind++) {
@@ -195,7 +195,8 @@ public final class CallEdgesTest {
     private static void testLastByteOfThePaper() {
         RiddleMill mill = Check.mill(TEXT);
         int length = mill.write();
-        String due = "grid 3 2 4;differ a1 b1 c1;differ a2 b2 c2;sum 5 a1 b1;count 1 1 a1 b1 c1;less a2 b2;is c2 4;";
+        String due = "grid 3 2 4;differ a1 b1 c1;differ a2 b2 c2;"
+                + "sum 5 a1 b1;count 1 1 a1 b1 c1;less a2 b2;is c2 4;";
         Check.same("its length", due.length(), length);
         for (int k = 0; k < length; k++) {
             Check.same("byte " + k, due.charAt(k), mill.byteAt(k));

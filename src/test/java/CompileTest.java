@@ -192,7 +192,8 @@ public final class CompileTest {
         Check.error("grid 3 2 2;sum 3 a1 a1;", 3, 20);
         // Another rule can have the cell, too.
         Check.reads("grid 3 2 2;odd a1;odd a1;", "grid 3 2 2;odd a1;odd a1;");
-        Check.reads("grid 3 2 2;rows;differ a1 b1;", "grid 3 2 2;differ a1 b1 c1;differ a2 b2 c2;differ a1 b1;");
+        Check.reads("grid 3 2 2;rows;differ a1 b1;",
+                "grid 3 2 2;differ a1 b1 c1;differ a2 b2 c2;differ a1 b1;");
     }
 
     private static void testTooManyCells() {
@@ -215,7 +216,8 @@ public final class CompileTest {
         Check.same("columns up to 40", 40,
                 Check.mill(head + Check.repeat("odd a1;", 35) + "columns;").count(3));
         Check.error(head + Check.repeat("odd a1;", 36) + "columns;", 4, 11 + 36 * 7);
-        Check.error(head + "rows;columns;rows;columns;rows;columns;rows;columns;rows;rows;", 4, 11 + 4 * 13 + 5);
+        Check.error(head + "rows;columns;rows;columns;rows;columns;rows;columns;rows;rows;", 4,
+                11 + 4 * 13 + 5);
     }
 
     private static void testFormIsLookedAtFirst() {

@@ -10,8 +10,8 @@ final class ModelReader {
     private static final Pattern PUZZLE = Pattern.compile("grid N N N ; (?:(?:rows|columns"
             + "|(?:differ|up|odd|even|same)(?: C)+|(?:sum|product|see|apart) N(?: C)+|count N N(?: C)+"
             + "|less C C|is C N) ; )*");
-    private static final List<String> WORDS = List.of("grid", "rows", "columns", "differ", "sum", "product", "less",
-            "up", "see", "odd", "even", "count", "is", "apart", "same");
+    private static final List<String> WORDS = List.of("grid", "rows", "columns", "differ", "sum", "product",
+            "less", "up", "see", "odd", "even", "count", "is", "apart", "same");
 
     int error;
     int errorAt = -1;

@@ -1,7 +1,7 @@
 /** Promises 4 and 5: compile reads what a second reader reads, over many right and wrong texts. */
 public final class ReaderTest {
-    private static final String[] WORDS = {"rows", "columns", "differ", "sum", "product", "less", "up", "see", "odd",
-        "even", "count", "is", "apart", "same"};
+    private static final String[] WORDS = {"rows", "columns", "differ", "sum", "product", "less", "up", "see",
+        "odd", "even", "count", "is", "apart", "same"};
     private static final String SIGNS = "abcdeg z0123456;;  \n\0\377" + "`{/:A";
     private static final int TEXTS = 60000;
 

@@ -66,7 +66,8 @@ public final class ReasonEdgesTest {
                 StringBuilder text = new StringBuilder("grid 2 2 " + k + ";");
                 for (int bit = 0; bit < size * k; bit++) {
                     if ((taken >> bit & 1) == 1) {
-                        text.append("count ").append(1 + bit % k).append(" 0").append(CELLS[bit / k]).append(';');
+                        text.append("count ").append(1 + bit % k).append(" 0");
+                        text.append(CELLS[bit / k]).append(';');
                     }
                 }
                 testSteps(text.append(rule).append(';').toString());
@@ -249,8 +250,8 @@ public final class ReasonEdgesTest {
 
     // There are no other cells: the values that the rule itself allows are possible.
     private static void testRulesOfOneCell() {
-        String[] rules = {"differ a1", "sum 3 a1", "product 4 a1", "up a1", "see 1 a1", "see 2 a1", "odd a1", "even a1",
-            "count 5 1 a1", "count 5 0 a1", "count 5 2 a1", "is a1 2", "apart 4 a1", "same a1"};
+        String[] rules = {"differ a1", "sum 3 a1", "product 4 a1", "up a1", "see 1 a1", "see 2 a1", "odd a1",
+            "even a1", "count 5 1 a1", "count 5 0 a1", "count 5 2 a1", "is a1 2", "apart 4 a1", "same a1"};
         int[] due = {31, 4, 8, 31, 31, 0, 21, 10, 16, 15, 0, 2, 31, 31};
         for (int i = 0; i < rules.length; i++) {
             RiddleMill mill = Check.mill("grid 2 2 5;" + rules[i] + ";");

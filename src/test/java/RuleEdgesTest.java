@@ -123,7 +123,8 @@ public final class RuleEdgesTest {
             {0, 1, 1, 1, 1}};
         for (int filled = 0; filled <= 5; filled++) {
             for (int rule = 0; rule < 5; rule++) {
-                Check.same("product, rule " + rule + ", filled " + filled, due[filled][rule], mill.rule(rule, 9));
+                Check.same("product, rule " + rule + ", filled " + filled, due[filled][rule],
+                        mill.rule(rule, 9));
             }
             mill.put(filled, 5);
         }
