@@ -2,12 +2,10 @@ import java.util.Arrays;
 
 /** Promises 6 to 25: the mill does what a slow and plain second one does, over many puzzles. */
 public final class ModelTest {
-    private static final String[] WORDS = {"differ", "sum", "product", "less", "up", "see", "odd", "even",
-        "count", "is", "apart", "same"};
     private static final int PUZZLES = 1500;
     private static final int CALLS = 25;
 
-    private static long state = 20261119L;
+    private static final Puzzles puzzles = new Puzzles(20261119L);
     private static String story = "";
 
     private ModelTest() {
@@ -20,83 +18,8 @@ public final class ModelTest {
         Check.end();
     }
 
-    // The same numbers in each run of the tests.
-    private static int number(int bound) {
-        state = state * 6364136223846793005L + 1442695040888963407L;
-        return (int) ((state >>> 33) % bound);
-    }
-
-    private static Model puzzle() {
-        Model model = new Model(2 + number(4), 2 + number(4), 2 + number(4));
-        if (number(2) == 0) {
-            addLines(model);
-        }
-        int more = number(7);
-        int[] hidden = new int[model.w * model.h];
-        for (int cell = 0; cell < hidden.length; cell++) {
-            hidden[cell] = 1 + number(model.k);
-        }
-        for (int i = 0; i < more; i++) {
-            model.rules.add(anyRule(model, hidden));
-        }
-        return model;
-    }
-
-    private static void addLines(Model model) {
-        for (int row = 0; row < model.h; row++) {
-            int[] cells = new int[model.w];
-            for (int column = 0; column < model.w; column++) {
-                cells[column] = column + model.w * row;
-            }
-            model.rules.add(new Model.ModelRule("differ", 0, 0, cells));
-        }
-    }
-
-    private static Model.ModelRule anyRule(Model model, int[] hidden) {
-        String word = WORDS[number(WORDS.length)];
-        int size = word.equals("less") ? 2 : word.equals("is") ? 1 : 1 + number(Math.min(5, hidden.length));
-        int[] cells = new int[size];
-        int sum = 0;
-        int product = 1;
-        for (int i = 0; i < size; i++) {
-            int cell = number(hidden.length);
-            while (contains(cells, i, cell)) {
-                cell = (cell + 1) % hidden.length;
-            }
-            cells[i] = cell;
-            sum += hidden[cell];
-            product *= hidden[cell];
-        }
-        boolean isWild = number(6) == 0;
-        switch (word) {
-            case "sum":
-                return new Model.ModelRule(word, isWild ? number(30) : sum, 0, cells);
-            case "product":
-                return new Model.ModelRule(word, isWild ? number(70) : product, 0, cells);
-            case "see":
-                return new Model.ModelRule(word, 1 + number(isWild ? 5 : Math.min(3, size)), 0, cells);
-            case "count":
-                return new Model.ModelRule(word, 1 + number(model.k), number(isWild ? 6 : size + 1), cells);
-            case "is":
-                return new Model.ModelRule(word, hidden[cells[0]], 0, cells);
-            case "apart":
-                return new Model.ModelRule(word, 1 + number(isWild ? 4 : 2), 0, cells);
-            default:
-                return new Model.ModelRule(word, 0, 0, cells);
-        }
-    }
-
-    private static boolean contains(int[] cells, int length, int cell) {
-        for (int i = 0; i < length; i++) {
-            if (cells[i] == cell) {
-                return true;
-            }
-        }
-        return false;
-    }
-
     private static void testPuzzle() {
-        Model model = puzzle();
+        Model model = puzzles.next();
         RiddleMill mill = new RiddleMill();
         story = model.text();
         same("compile", 0, Check.compile(mill, model.text()));
@@ -114,8 +37,8 @@ public final class ModelTest {
 
     private static void doCall(Model model, RiddleMill mill) {
         int cells = model.w * model.h;
-        int what = number(20);
-        int with = number(65536);
+        int what = puzzles.number(20);
+        int with = puzzles.number(65536);
         story = story + " " + what + "/" + with;
         if (what < 6) {
             int cell = with % cells;
@@ -170,7 +93,7 @@ public final class ModelTest {
             same("broken rule " + rule, model.broken(told, model.grid) ? 1 : 0, mill.rule(rule, 9));
             same("cells of rule " + rule, told.cells.length, mill.rule(rule, 3));
             same("first cell of rule " + rule, told.cells[0], mill.rule(rule, 4));
-            Check.same("word of rule " + rule, told.word, WORDS[mill.rule(rule, 0)]);
+            Check.same("word of rule " + rule, told.word, Puzzles.WORDS[mill.rule(rule, 0)]);
         }
         for (int index = 0; index < model.solutions.size(); index++) {
             for (int cell = 0; cell < cells; cell++) {
